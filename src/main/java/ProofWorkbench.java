@@ -11,7 +11,8 @@ public final class ProofWorkbench {
     private static final int FIRST_COMPOUND = 20;
 
     private static final int LETTERS = 8;
-    private static final int MOST_FORMULAS = FIRST_COMPOUND + 2 * 30;
+    private static final int MOST_PAIRS = 30;
+    private static final int MOST_FORMULAS = FIRST_COMPOUND + 2 * MOST_PAIRS;
     private static final int MOST_LEAVES = 8;
 
     private static final int SIGN_TIMES = 0;
@@ -598,14 +599,18 @@ public final class ProofWorkbench {
                 add(SIGNS.charAt(table.signOf(n)));
                 append(table.secondOf(n), depth + 1);
                 add(')');
-            } else if (n >= UNIT) {
+            } else if (n >= UNIT && n < FIRST_COMPOUND) {
                 add(CONSTANTS.charAt(n - UNIT));
             } else {
-                if ((n & 1) == 1) {
-                    add('~');
-                }
-                add((char) ('a' + n / 2));
+                addLetter(n);
             }
+        }
+
+        private void addLetter(int n) {
+            if ((n & 1) == 1) {
+                add('~');
+            }
+            add((char) ('a' + n / 2));
         }
 
         private void add(char c) {
@@ -795,10 +800,10 @@ public final class ProofWorkbench {
         int firstBareCut() {
             int found = NONE;
             int end = count;
-            for (int i = 0; i < end; i++) {
+            for (int i = 0; i < count && i < end; i++) {
                 if (row[i].rule == CUT) {
                     found = i;
-                    end = Math.min(count, endOf(i));
+                    end = endOf(i);
                 }
             }
             return found;
