@@ -75,6 +75,46 @@ final class Bench {
         return text.toString();
     }
 
+    /** The call's answer, or the class of what it throws. */
+    Object answerOf(Check.Call call) {
+        try {
+            return call.apply(this);
+        } catch (RuntimeException e) {
+            return e.getClass();
+        }
+    }
+
+    /** What a row of calls answers that has some of each kind, so that all that the object holds is told by it. */
+    String answersBehind() {
+        StringBuilder text = new StringBuilder(all());
+        Check.Call[] calls = {
+            b -> b.it.type(packed("h)")), b -> b.it.read(), b -> b.it.read(), b -> b.it.formulas(),
+            b -> b.it.make(0, 12, 12), b -> b.it.make(3, 19, 12), b -> b.it.make(2, 12, 12), b -> b.allFormulas(),
+            b -> b.it.prove(3), b -> b.it.put(19), b -> b.it.prove(2), b -> b.it.top(2), b -> b.it.take(0),
+            b -> b.it.step(0), b -> b.it.cuts(0), b -> b.it.step(1), b -> b.all(),
+            b -> b.it.cut(0, 1, 0), b -> b.it.cut(0, 2, 19), b -> b.it.bottom(0), b -> b.it.bottom(1), b -> b.all(),
+            b -> b.it.eliminate(0), b -> b.it.eliminate(1), b -> b.it.nodes(0), b -> b.all(),
+            b -> b.it.axiom(3, 7), b -> b.it.one(1), b -> b.all(), b -> b.it.drop(0), b -> b.it.drop(2), b -> b.all(),
+        };
+        for (Check.Call call : calls) {
+            text.append('\n').append(answerOf(call));
+        }
+        return text.toString();
+    }
+
+    /** Every formula as it is written, with what there is about it. */
+    String allFormulas() {
+        StringBuilder text = new StringBuilder();
+        for (int n = 0; n < it.formulas(); n++) {
+            text.append(written(n));
+            for (int what = 0; what < 4; what++) {
+                text.append(' ').append(it.about(n, what));
+            }
+            text.append(", ");
+        }
+        return text.toString();
+    }
+
     /** All that can be seen of the object, but for its text, which only reading tells. */
     String all() {
         StringBuilder text = new StringBuilder();

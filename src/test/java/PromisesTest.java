@@ -1,38 +1,7 @@
+import java.util.function.IntFunction;
+
 /** One method for each promise of the document, by its number. */
-public final class PromisesTest {
-    private static final Class<?> ARGUMENT = IllegalArgumentException.class;
-    private static final Class<?> STATE = IllegalStateException.class;
-    private static final Class<?> TOO_MUCH = UnsupportedOperationException.class;
-    private static final Class<?> INDEX = IndexOutOfBoundsException.class;
-    private static final int NONE = ProofWorkbench.NONE;
-
-    private static int wrong = 0;
-    private static int promise = 0;
-
-    private interface Call {
-        int answer();
-    }
-
-    private static void due(String what, Object got, Object want) {
-        if (!got.equals(want)) {
-            wrong++;
-            System.out.println("promise " + promise + ": " + what + " is " + got + ", due is " + want);
-        }
-    }
-
-    /** The call throws this, and nothing that can be seen has changed. */
-    private static void refused(Bench bench, String what, Class<?> want, Call call) {
-        String before = bench.all();
-        Object got;
-        try {
-            got = call.answer();
-        } catch (RuntimeException e) {
-            got = e.getClass();
-        }
-        due(what, got, want);
-        due(what + ", what is there behind it", bench.all(), before);
-    }
-
+public final class PromisesTest extends Check {
     private static void promise1() {
         Bench b = new Bench();
         due("all", b.all(), "20 |  |  |  |  | ");
@@ -138,20 +107,20 @@ public final class PromisesTest {
         due("b*a", b.it.make(0, 2, 0), 28);
         due("a*b again", b.it.make(0, 0, 2), 20);
         for (int sign : new int[] {-1, 4, Integer.MIN_VALUE, Integer.MAX_VALUE}) {
-            refused(b, "sign " + sign, ARGUMENT, () -> b.it.make(sign, 0, 0));
+            refused(b, "sign " + sign, ARGUMENT, x -> b.it.make(sign, 0, 0));
         }
         for (int n : new int[] {-1, 30, 80, Integer.MIN_VALUE, Integer.MAX_VALUE}) {
-            refused(b, "a part " + n, ARGUMENT, () -> b.it.make(0, n, 0));
-            refused(b, "a second part " + n, ARGUMENT, () -> b.it.make(0, 0, n));
+            refused(b, "a part " + n, ARGUMENT, x -> b.it.make(0, n, 0));
+            refused(b, "a second part " + n, ARGUMENT, x -> b.it.make(0, 0, n));
         }
         int four = b.it.make(0, 20, 20);
         due("eight leaves", b.it.make(0, four, four), 32);
-        refused(b, "nine leaves", STATE, () -> b.it.make(0, 32, 0));
+        refused(b, "nine leaves", STATE, x -> b.it.make(0, 32, 0));
         for (int k = 0; k < 23; k++) {
             due("pair " + (7 + k), b.it.make(3, k % 8, 8 + k / 8), 35 + 2 * k);
         }
-        refused(b, "a 31st pair", STATE, () -> b.it.make(0, 0, 19));
-        refused(b, "a wrong sign comes before it", ARGUMENT, () -> b.it.make(4, 0, 19));
+        refused(b, "a 31st pair", STATE, x -> b.it.make(0, 0, 19));
+        refused(b, "a wrong sign comes before it", ARGUMENT, x -> b.it.make(4, 0, 19));
         due("what is there", b.it.make(1, 0, 2), 23);
     }
 
@@ -181,10 +150,10 @@ public final class PromisesTest {
         }
         due("*", b.it.about(20, 1), 0);
         due("%", b.it.about(21, 1), 1);
-        refused(b, "what -1", ARGUMENT, () -> b.it.about(0, -1));
-        refused(b, "what 4", ARGUMENT, () -> b.it.about(0, 4));
-        refused(b, "formula -1", ARGUMENT, () -> b.it.about(-1, 0));
-        refused(b, "formula 24", ARGUMENT, () -> b.it.about(24, 0));
+        refused(b, "what -1", ARGUMENT, x -> b.it.about(0, -1));
+        refused(b, "what 4", ARGUMENT, x -> b.it.about(0, 4));
+        refused(b, "formula -1", ARGUMENT, x -> b.it.about(-1, 0));
+        refused(b, "formula 24", ARGUMENT, x -> b.it.about(24, 0));
     }
 
     private static void promise7() {
@@ -205,8 +174,8 @@ public final class PromisesTest {
         for (String deep : new String[] {"(a+(b+(c+(1+(0+(T+(F+~h)))))))", "(((((((a*b)*c)*1)*0)*T)*F)*~h)"}) {
             due("a deep one", b.written(b.read(deep)), deep);
         }
-        refused(b, "formula -1", ARGUMENT, () -> b.it.written(-1, 0));
-        refused(b, "formula 99", ARGUMENT, () -> b.it.written(99, 0));
+        refused(b, "formula -1", ARGUMENT, x -> b.it.written(-1, 0));
+        refused(b, "formula 99", ARGUMENT, x -> b.it.written(99, 0));
     }
 
     private static void promise8() {
@@ -216,16 +185,16 @@ public final class PromisesTest {
         due("the same", b.it.put(5), 3);
         due("one between", b.it.put(3), 4);
         due("in rising order", b.draft(), "2 3 5 5");
-        refused(b, "formula -1", ARGUMENT, () -> b.it.put(-1));
-        refused(b, "formula 20", ARGUMENT, () -> b.it.put(20));
+        refused(b, "formula -1", ARGUMENT, x -> b.it.put(-1));
+        refused(b, "formula 20", ARGUMENT, x -> b.it.put(20));
         b.it.make(0, 0, 0);
         due("two leaves", b.it.put(20), 5);
         due("two leaves more", b.it.put(21), 6);
-        refused(b, "a ninth leaf", STATE, () -> b.it.put(0));
+        refused(b, "a ninth leaf", STATE, x -> b.it.put(0));
         b.setDraft(0, 0, 0, 0, 0, 0, 0);
-        refused(b, "two for the eighth leaf", STATE, () -> b.it.put(20));
+        refused(b, "two for the eighth leaf", STATE, x -> b.it.put(20));
         due("the eighth", b.it.put(19), 8);
-        refused(b, "a ninth formula", STATE, () -> b.it.put(19));
+        refused(b, "a ninth formula", STATE, x -> b.it.put(19));
     }
 
     private static void promise9() {
@@ -253,7 +222,7 @@ public final class PromisesTest {
         due("far", b.it.draft(Integer.MIN_VALUE), NONE);
     }
 
-    private static void refusedSlots(Bench b, String what, java.util.function.IntFunction<Call> of) {
+    private static void refusedSlots(Bench b, String what, IntFunction<Call> of) {
         for (int slot : new int[] {-1, 4, Integer.MIN_VALUE, Integer.MAX_VALUE}) {
             refused(b, what + " slot " + slot, ARGUMENT, of.apply(slot));
         }
@@ -265,9 +234,9 @@ public final class PromisesTest {
             due("nodes", b.it.axiom(k % 4, k), 1);
             due("the axiom", b.proof(k % 4), "0/" + 2 * k + "[" + 2 * k + " " + (2 * k + 1) + "]");
         }
-        refusedSlots(b, "axiom", slot -> () -> b.it.axiom(slot, 0));
-        refused(b, "letter -1", ARGUMENT, () -> b.it.axiom(0, -1));
-        refused(b, "letter 8", ARGUMENT, () -> b.it.axiom(0, 8));
+        refusedSlots(b, "axiom", slot -> x -> b.it.axiom(slot, 0));
+        refused(b, "letter -1", ARGUMENT, x -> b.it.axiom(0, -1));
+        refused(b, "letter 8", ARGUMENT, x -> b.it.axiom(0, 8));
     }
 
     private static void promise12() {
@@ -276,7 +245,7 @@ public final class PromisesTest {
         b.it.bottom(3);
         due("nodes", b.it.one(3), 1);
         due("in place of what was there", b.proof(3), "1/16[16]");
-        refusedSlots(b, "one", slot -> () -> b.it.one(slot));
+        refusedSlots(b, "one", slot -> x -> b.it.one(slot));
     }
 
     private static void promise13() {
@@ -287,18 +256,18 @@ public final class PromisesTest {
         due("with others", b.it.top(0), 1);
         due("in rising order", b.proof(0), "2/19[0 18 19 19 20]");
         due("the draft stays", b.draft(), "0 18 19 20");
-        refusedSlots(b, "top", slot -> () -> b.it.top(slot));
+        refusedSlots(b, "top", slot -> x -> b.it.top(slot));
         b.setDraft(0, 0, 0, 0, 0, 0, 0);
         due("eight formulas", b.it.top(1), 1);
         b.it.put(0);
-        refused(b, "nine formulas", TOO_MUCH, () -> b.it.top(1));
-        refused(b, "a wrong slot comes first", ARGUMENT, () -> b.it.top(4));
+        refused(b, "nine formulas", TOO_MUCH, x -> b.it.top(1));
+        refused(b, "a wrong slot comes first", ARGUMENT, x -> b.it.top(4));
     }
 
     private static void promise14() {
         Bench b = new Bench();
-        refused(b, "no proof", STATE, () -> b.it.bottom(0));
-        refusedSlots(b, "bottom", slot -> () -> b.it.bottom(slot));
+        refused(b, "no proof", STATE, x -> b.it.bottom(0));
+        refusedSlots(b, "bottom", slot -> x -> b.it.bottom(slot));
         b.it.one(0);
         due("nodes", b.it.bottom(0), 2);
         due("twice", b.it.bottom(0), 3);
@@ -306,7 +275,7 @@ public final class PromisesTest {
         for (int i = 0; i < 5; i++) {
             b.it.bottom(0);
         }
-        refused(b, "nine formulas", TOO_MUCH, () -> b.it.bottom(0));
+        refused(b, "nine formulas", TOO_MUCH, x -> b.it.bottom(0));
         leavesOfConclusions();
     }
 
@@ -318,7 +287,7 @@ public final class PromisesTest {
         b.it.bottom(0);
         b.it.bottom(0);
         due("twelve leaves", b.it.bottom(0), 4);
-        refused(b, "thirteen leaves", TOO_MUCH, () -> b.it.bottom(0));
+        refused(b, "thirteen leaves", TOO_MUCH, x -> b.it.bottom(0));
     }
 
     private static void promise15() {
@@ -326,23 +295,23 @@ public final class PromisesTest {
         int n = b.read("(a%~a)");
         int twice = b.read("(F%F)");
         int plus = b.read("(a+~a)");
-        refused(b, "no proof", STATE, () -> b.it.par(0, n));
+        refused(b, "no proof", STATE, x -> b.it.par(0, n));
         b.it.axiom(0, 0);
         for (int other : new int[] {n ^ 1, plus, plus ^ 1, 0, 17, -1, 99}) {
-            refused(b, "formula " + other, ARGUMENT, () -> b.it.par(0, other));
-            refused(b, "formula " + other + " without a proof", ARGUMENT, () -> b.it.par(1, other));
+            refused(b, "formula " + other, ARGUMENT, x -> b.it.par(0, other));
+            refused(b, "formula " + other + " without a proof", ARGUMENT, x -> b.it.par(1, other));
         }
-        refusedSlots(b, "par", slot -> () -> b.it.par(slot, n));
+        refusedSlots(b, "par", slot -> x -> b.it.par(slot, n));
         b.it.bottom(0);
-        refused(b, "one part of two that are the same", STATE, () -> b.it.par(0, twice));
+        refused(b, "one part of two that are the same", STATE, x -> b.it.par(0, twice));
         due("nodes", b.it.par(0, n), 3);
         due("the proof", b.proof(0), "4/21[17 21] 3/17[0 1 17] 0/0[0 1]");
-        refused(b, "no part is there now", STATE, () -> b.it.par(0, n));
+        refused(b, "no part is there now", STATE, x -> b.it.par(0, n));
         b.it.bottom(0);
         due("both parts the same", b.it.par(0, twice), 5);
         due("its conclusion", b.line(0, 0), "21 23");
         b.it.axiom(1, 1);
-        refused(b, "parts of another letter", STATE, () -> b.it.par(1, n));
+        refused(b, "parts of another letter", STATE, x -> b.it.par(1, n));
         hundred();
     }
 
@@ -357,12 +326,12 @@ public final class PromisesTest {
             b.it.cut(0, 1, 0);
         }
         due("99 nodes", b.it.nodes(0), 99);
-        refused(b, "two nodes more", TOO_MUCH, () -> b.it.cut(0, 1, 0));
-        refused(b, "what is not as the rule asks comes first", STATE, () -> b.it.cut(0, 1, 2));
+        refused(b, "two nodes more", TOO_MUCH, x -> b.it.cut(0, 1, 0));
+        refused(b, "what is not as the rule asks comes first", STATE, x -> b.it.cut(0, 1, 2));
         due("100 nodes", b.it.bottom(0), 100);
-        refused(b, "BOTTOM", TOO_MUCH, () -> b.it.bottom(0));
-        refused(b, "PAR", TOO_MUCH, () -> b.it.par(0, n));
-        refused(b, "LEFT", TOO_MUCH, () -> b.it.plus(0, plus, false));
+        refused(b, "BOTTOM", TOO_MUCH, x -> b.it.bottom(0));
+        refused(b, "PAR", TOO_MUCH, x -> b.it.par(0, n));
+        refused(b, "LEFT", TOO_MUCH, x -> b.it.plus(0, plus, false));
         due("drop", b.it.drop(0), 100);
     }
 
@@ -370,15 +339,15 @@ public final class PromisesTest {
         Bench b = new Bench();
         int n = b.read("(a+b)");
         int times = b.read("(a*b)");
-        refused(b, "no proof", STATE, () -> b.it.plus(0, n, false));
+        refused(b, "no proof", STATE, x -> b.it.plus(0, n, false));
         b.it.axiom(0, 0);
         b.it.axiom(1, 1);
-        refusedSlots(b, "plus", slot -> () -> b.it.plus(slot, n, true));
+        refusedSlots(b, "plus", slot -> x -> b.it.plus(slot, n, true));
         for (int other : new int[] {n ^ 1, times, times ^ 1, 0, 16, -1, 99}) {
-            refused(b, "formula " + other, ARGUMENT, () -> b.it.plus(0, other, false));
+            refused(b, "formula " + other, ARGUMENT, x -> b.it.plus(0, other, false));
         }
-        refused(b, "RIGHT of a", STATE, () -> b.it.plus(0, n, true));
-        refused(b, "LEFT of b", STATE, () -> b.it.plus(1, n, false));
+        refused(b, "RIGHT of a", STATE, x -> b.it.plus(0, n, true));
+        refused(b, "LEFT of b", STATE, x -> b.it.plus(1, n, false));
         due("LEFT", b.it.plus(0, n, false), 2);
         due("RIGHT", b.it.plus(1, n, true), 2);
         due("the proof by LEFT", b.proof(0), "6/20[1 20] 0/0[0 1]");
@@ -391,8 +360,8 @@ public final class PromisesTest {
         b.it.bottom(2);
         b.it.bottom(2);
         int last = b.read("(F+F)");
-        refused(b, "thirteen leaves", TOO_MUCH, () -> b.it.plus(2, last, true));
-        refused(b, "a part that is not there comes first", STATE, () -> b.it.plus(2, five, true));
+        refused(b, "thirteen leaves", TOO_MUCH, x -> b.it.plus(2, last, true));
+        refused(b, "a part that is not there comes first", STATE, x -> b.it.plus(2, five, true));
     }
 
     private static void promise17() {
@@ -403,19 +372,19 @@ public final class PromisesTest {
         int plus = b.read("(~a+~b)");
         due("the dual", plus, n ^ 1);
         b.it.axiom(0, 0);
-        refused(b, "no other proof", STATE, () -> b.it.with(0, 1, n));
-        refused(b, "no proof", STATE, () -> b.it.with(1, 0, n));
+        refused(b, "no other proof", STATE, x -> b.it.with(0, 1, n));
+        refused(b, "no proof", STATE, x -> b.it.with(1, 0, n));
         b.it.axiom(1, 1);
-        refusedSlots(b, "with", slot -> () -> b.it.with(slot, 0, n));
-        refusedSlots(b, "with other", slot -> () -> b.it.with(0, slot, n));
+        refusedSlots(b, "with", slot -> x -> b.it.with(slot, 0, n));
+        refusedSlots(b, "with other", slot -> x -> b.it.with(0, slot, n));
         for (int other : new int[] {plus, par, par ^ 1, 19, -1, 99}) {
-            refused(b, "formula " + other, ARGUMENT, () -> b.it.with(0, 1, other));
+            refused(b, "formula " + other, ARGUMENT, x -> b.it.with(0, 1, other));
         }
-        refused(b, "other formulas beside the parts", STATE, () -> b.it.with(0, 1, n));
+        refused(b, "other formulas beside the parts", STATE, x -> b.it.with(0, 1, n));
         b.it.plus(0, plus, false);
-        refused(b, "other formulas beside one part", STATE, () -> b.it.with(0, 1, n));
+        refused(b, "other formulas beside one part", STATE, x -> b.it.with(0, 1, n));
         b.it.plus(1, plus, true);
-        refused(b, "the parts the other way round", STATE, () -> b.it.with(1, 0, n));
+        refused(b, "the parts the other way round", STATE, x -> b.it.with(1, 0, n));
         due("nodes", b.it.with(0, 1, n), 5);
         due("the proof", b.proof(0), "5/21[20 21] 6/20[0 20] 0/0[0 1] 7/20[2 20] 0/2[2 3]");
         due("the other slot", b.proof(1), "7/20[2 20] 0/2[2 3]");
@@ -425,8 +394,8 @@ public final class PromisesTest {
         b.it.axiom(2, 0);
         b.it.axiom(3, 0);
         b.it.bottom(3);
-        refused(b, "one formula more beside the second part", STATE, () -> b.it.with(2, 3, both));
-        refused(b, "one formula more beside the first part", STATE, () -> b.it.with(3, 2, both));
+        refused(b, "one formula more beside the second part", STATE, x -> b.it.with(2, 3, both));
+        refused(b, "one formula more beside the first part", STATE, x -> b.it.with(3, 2, both));
         tooLargeWith();
     }
 
@@ -443,7 +412,7 @@ public final class PromisesTest {
         due("15 nodes", b.it.with(0, 0, other), 31);
         due("63 nodes", b.it.with(0, 0, b.it.make(3, other, other)), 63);
         int next = b.it.make(3, b.it.make(3, other, other), b.it.make(3, other, other));
-        refused(b, "127 nodes, 16 leaves", TOO_MUCH, () -> b.it.with(0, 0, next));
+        refused(b, "127 nodes, 16 leaves", TOO_MUCH, x -> b.it.with(0, 0, next));
     }
 
     private static void promise18() {
@@ -451,16 +420,16 @@ public final class PromisesTest {
         int n = b.read("(a*b)");
         int plus = b.read("(a+b)");
         b.it.axiom(0, 0);
-        refused(b, "no other proof", STATE, () -> b.it.times(0, 1, n));
-        refused(b, "no proof", STATE, () -> b.it.times(1, 0, n));
+        refused(b, "no other proof", STATE, x -> b.it.times(0, 1, n));
+        refused(b, "no proof", STATE, x -> b.it.times(1, 0, n));
         b.it.axiom(1, 1);
-        refusedSlots(b, "times", slot -> () -> b.it.times(slot, 0, n));
-        refusedSlots(b, "times other", slot -> () -> b.it.times(0, slot, n));
+        refusedSlots(b, "times", slot -> x -> b.it.times(slot, 0, n));
+        refusedSlots(b, "times other", slot -> x -> b.it.times(0, slot, n));
         for (int other : new int[] {n ^ 1, plus, plus ^ 1, 0, -1, 99}) {
-            refused(b, "formula " + other, ARGUMENT, () -> b.it.times(0, 1, other));
+            refused(b, "formula " + other, ARGUMENT, x -> b.it.times(0, 1, other));
         }
-        refused(b, "the parts the other way round", STATE, () -> b.it.times(1, 0, n));
-        refused(b, "only the first part", STATE, () -> b.it.times(0, 0, n));
+        refused(b, "the parts the other way round", STATE, x -> b.it.times(1, 0, n));
+        refused(b, "only the first part", STATE, x -> b.it.times(0, 0, n));
         due("nodes", b.it.times(0, 1, n), 3);
         due("the proof", b.proof(0), "8/20[1 3 20] 0/0[0 1] 0/2[2 3]");
         due("the other slot", b.proof(1), "0/2[2 3]");
@@ -469,30 +438,30 @@ public final class PromisesTest {
         int four = b.it.make(0, n, n);
         due("five formulas", b.it.times(0, 0, four), 7);
         int eight = b.it.make(0, four, four);
-        refused(b, "nine formulas", TOO_MUCH, () -> b.it.times(0, 0, eight));
+        refused(b, "nine formulas", TOO_MUCH, x -> b.it.times(0, 0, eight));
     }
 
     private static void promise19() {
         Bench b = new Bench();
         b.it.one(0);
-        refused(b, "no other proof", STATE, () -> b.it.cut(0, 1, 16));
-        refused(b, "no proof", STATE, () -> b.it.cut(1, 0, 16));
+        refused(b, "no other proof", STATE, x -> b.it.cut(0, 1, 16));
+        refused(b, "no proof", STATE, x -> b.it.cut(1, 0, 16));
         b.it.axiom(1, 0);
         b.it.bottom(1);
-        refusedSlots(b, "cut", slot -> () -> b.it.cut(slot, 0, 16));
-        refusedSlots(b, "cut other", slot -> () -> b.it.cut(0, slot, 16));
-        refused(b, "formula -1", ARGUMENT, () -> b.it.cut(0, 1, -1));
-        refused(b, "formula 20", ARGUMENT, () -> b.it.cut(0, 1, 20));
-        refused(b, "a formula that is not there", STATE, () -> b.it.cut(0, 1, 0));
-        refused(b, "the dual one first", STATE, () -> b.it.cut(0, 1, 17));
-        refused(b, "not in the other", STATE, () -> b.it.cut(0, 0, 16));
+        refusedSlots(b, "cut", slot -> x -> b.it.cut(slot, 0, 16));
+        refusedSlots(b, "cut other", slot -> x -> b.it.cut(0, slot, 16));
+        refused(b, "formula -1", ARGUMENT, x -> b.it.cut(0, 1, -1));
+        refused(b, "formula 20", ARGUMENT, x -> b.it.cut(0, 1, 20));
+        refused(b, "a formula that is not there", STATE, x -> b.it.cut(0, 1, 0));
+        refused(b, "the dual one first", STATE, x -> b.it.cut(0, 1, 17));
+        refused(b, "not in the other", STATE, x -> b.it.cut(0, 0, 16));
         due("nodes", b.it.cut(0, 1, 16), 4);
         due("the proof", b.proof(0), "9/16[0 1] 1/16[16] 3/17[0 1 17] 0/0[0 1]");
         due("of itself, the odd one", b.it.cut(0, 0, 1), 9);
         due("its conclusion", b.line(0, 0), "0 1");
         b.setDraft(0, 0, 0, 0, 1);
         b.it.top(2);
-        refused(b, "ten formulas", TOO_MUCH, () -> b.it.cut(2, 2, 0));
+        refused(b, "ten formulas", TOO_MUCH, x -> b.it.cut(2, 2, 0));
         b.it.take(0);
         b.it.top(2);
         due("eight formulas", b.it.cut(2, 2, 0), 3);
@@ -508,7 +477,7 @@ public final class PromisesTest {
         due("none now", b.it.drop(0), 0);
         due("the other slot", b.it.nodes(1), 1);
         due("no proof", b.proof(0), "");
-        refusedSlots(b, "drop", slot -> () -> b.it.drop(slot));
+        refusedSlots(b, "drop", slot -> x -> b.it.drop(slot));
     }
 
     private static void found(String want, int... draft) {
@@ -551,7 +520,7 @@ public final class PromisesTest {
         found("", 23, 17);
         Bench b = new Bench();
         b.setDraft(19);
-        refusedSlots(b, "prove", slot -> () -> b.it.prove(slot) ? 1 : 0);
+        refusedSlots(b, "prove", slot -> x -> b.it.prove(slot));
         longSearches();
     }
 
@@ -576,8 +545,8 @@ public final class PromisesTest {
 
     private static void promise22() {
         Bench b = new Bench();
-        refusedSlots(b, "step", slot -> () -> b.it.step(slot));
-        refused(b, "no proof", STATE, () -> b.it.step(0));
+        refusedSlots(b, "step", slot -> x -> b.it.step(slot));
+        refused(b, "no proof", STATE, x -> b.it.step(0));
         b.it.one(0);
         due("no CUT", b.it.step(0), NONE);
         due("the proof", b.proof(0), "1/16[16]");
@@ -608,7 +577,7 @@ public final class PromisesTest {
         b.it.axiom(1, 0);
         b.it.plus(1, 20, false);
         b.it.axiom(0, 0);
-        rules.answer();
+        rules.apply(b);
         b.it.cut(0, 1, 0);
         return b;
     }
@@ -617,33 +586,33 @@ public final class PromisesTest {
         String axiom = "0/0[0 1]";
         String left = "6/20[1 20] 0/0[0 1]";
         Bench b = new Bench();
-        cutOfLeft(() -> b.it.put(0) + b.it.top(0), b);
+        cutOfLeft(x -> b.it.put(0) + b.it.top(0), b);
         stepped(b, "L is TOP", "9/0[19 20] 2/19[0 19] " + left, 0, "2/19[19 20]");
-        cutOfLeft(() -> b.it.bottom(0), b);
+        cutOfLeft(x -> b.it.bottom(0), b);
         stepped(b, "L is BOTTOM", "9/0[1 17 20] 3/17[0 1 17] " + axiom + " " + left, 1,
             "3/17[1 17 20] 9/0[1 20] " + axiom + " " + left);
         int par = b.read("(~a%F)");
-        cutOfLeft(() -> b.it.bottom(0) + b.it.par(0, par), b);
+        cutOfLeft(x -> b.it.bottom(0) + b.it.par(0, par), b);
         stepped(b, "L is PAR", "9/0[20 23] 4/23[0 23] 3/17[0 1 17] " + axiom + " " + left, 1,
             "4/23[20 23] 9/0[1 17 20] 3/17[0 1 17] " + axiom + " " + left);
         int plus = b.read("(c+~a)");
-        cutOfLeft(() -> b.it.plus(0, plus, true), b);
+        cutOfLeft(x -> b.it.plus(0, plus, true), b);
         stepped(b, "L is RIGHT", "9/0[20 24] 7/24[0 24] " + axiom + " " + left, 1,
             "7/24[20 24] 9/0[1 20] " + axiom + " " + left);
         int with = b.read("(~a&~a)");
-        cutOfLeft(() -> b.it.with(0, 0, with), b);
+        cutOfLeft(x -> b.it.with(0, 0, with), b);
         stepped(b, "L is WITH", "9/0[20 27] 5/27[0 27] " + axiom + " " + axiom + " " + left, 2,
             "5/27[20 27] 9/0[1 20] " + axiom + " " + left + " 9/0[1 20] " + axiom + " " + left);
         int times = b.read("(~a*1)");
-        cutOfLeft(() -> b.it.one(2) + b.it.times(0, 2, times), b);
+        cutOfLeft(x -> b.it.one(2) + b.it.times(0, 2, times), b);
         stepped(b, "L is TIMES with n in P", "9/0[20 28] 8/28[0 28] " + axiom + " 1/16[16] " + left, 1,
             "8/28[20 28] 9/0[1 20] " + axiom + " " + left + " 1/16[16]");
         int other = b.read("(1*~a)");
-        cutOfLeft(() -> b.it.axiom(2, 0) + b.it.one(0) + b.it.times(0, 2, other), b);
+        cutOfLeft(x -> b.it.axiom(2, 0) + b.it.one(0) + b.it.times(0, 2, other), b);
         stepped(b, "L is TIMES with n in Q", "9/0[20 30] 8/30[0 30] 1/16[16] " + axiom + " " + left, 1,
             "8/30[20 30] 1/16[16] 9/0[1 20] " + axiom + " " + left);
         int same = b.read("(a*~a)");
-        cutOfLeft(() -> b.it.times(0, 0, same), b);
+        cutOfLeft(x -> b.it.times(0, 0, same), b);
         stepped(b, "L is TIMES with n as the part of P only",
             "9/0[1 20 32] 8/32[0 1 32] " + axiom + " " + axiom + " " + left, 1,
             "8/32[1 20 32] " + axiom + " 9/0[1 20] " + axiom + " " + left);
@@ -656,7 +625,7 @@ public final class PromisesTest {
         b.it.plus(0, 20, false);
         b.it.axiom(1, 0);
         b.it.with(1, 1, 21);
-        rules.answer();
+        rules.apply(b);
         b.it.cut(0, 1, 20);
         return b;
     }
@@ -666,29 +635,29 @@ public final class PromisesTest {
         String with = "5/21[0 21] 0/0[0 1] 0/0[0 1]";
         Bench b = new Bench();
         due("the dual of a+a", b.read("(a+a)") ^ 1, b.read("(~a&~a)"));
-        cutOfRight(() -> b.it.put(21) + b.it.top(1), b);
+        cutOfRight(x -> b.it.put(21) + b.it.top(1), b);
         stepped(b, "R is TOP", "9/20[1 19] " + left + " 2/19[19 21]", 0, "2/19[1 19]");
-        cutOfRight(() -> b.it.bottom(1), b);
+        cutOfRight(x -> b.it.bottom(1), b);
         stepped(b, "R is BOTTOM", "9/20[0 1 17] " + left + " 3/17[0 17 21] " + with, 1,
             "3/17[0 1 17] 9/20[0 1] " + left + " " + with);
         int par = b.read("(a%F)");
-        cutOfRight(() -> b.it.bottom(1) + b.it.par(1, par), b);
+        cutOfRight(x -> b.it.bottom(1) + b.it.par(1, par), b);
         stepped(b, "R is PAR", "9/20[1 23] " + left + " 4/23[21 23] 3/17[0 17 21] " + with, 1,
             "4/23[1 23] 9/20[0 1 17] " + left + " 3/17[0 17 21] " + with);
         int plus = b.read("(a+c)");
-        cutOfRight(() -> b.it.plus(1, plus, false), b);
+        cutOfRight(x -> b.it.plus(1, plus, false), b);
         stepped(b, "R is LEFT", "9/20[1 24] " + left + " 6/24[21 24] " + with, 1,
             "6/24[1 24] 9/20[0 1] " + left + " " + with);
         int both = b.read("(a&a)");
-        cutOfRight(() -> b.it.with(1, 1, both), b);
+        cutOfRight(x -> b.it.with(1, 1, both), b);
         stepped(b, "R is WITH", "9/20[1 27] " + left + " 5/27[21 27] " + with + " " + with, 2,
             "5/27[1 27] 9/20[0 1] " + left + " " + with + " 9/20[0 1] " + left + " " + with);
         int times = b.read("(a*1)");
-        cutOfRight(() -> b.it.one(2) + b.it.times(1, 2, times), b);
+        cutOfRight(x -> b.it.one(2) + b.it.times(1, 2, times), b);
         stepped(b, "R is TIMES with the dual in P", "9/20[1 28] " + left + " 8/28[21 28] " + with + " 1/16[16]", 1,
             "8/28[1 28] 9/20[0 1] " + left + " " + with + " 1/16[16]");
         int other = b.read("(1*a)");
-        cutOfRight(() -> b.it.with(b.it.axiom(2, 0) + 1, 2, 21) + b.it.one(1) + b.it.times(1, 2, other), b);
+        cutOfRight(x -> b.it.with(b.it.axiom(2, 0) + 1, 2, 21) + b.it.one(1) + b.it.times(1, 2, other), b);
         stepped(b, "R is TIMES with the dual in Q", "9/20[1 30] " + left + " 8/30[21 30] 1/16[16] " + with, 1,
             "8/30[1 30] 1/16[16] 9/20[0 1] " + left + " " + with);
     }
@@ -801,14 +770,14 @@ public final class PromisesTest {
         int eight = large.it.make(3, large.read("((~a&~a)&(~a&~a))"), large.read("((~a&~a)&(~a&~a))"));
         due("63 nodes", large.it.with(1, 1, eight), 63);
         due("63 nodes and 3", large.it.cut(0, 1, four ^ 1), 67);
-        refused(large, "no room for 63 twice", TOO_MUCH, () -> large.it.step(0));
-        refused(large, "nor behind the first of all", TOO_MUCH, () -> large.it.eliminate(0));
+        refused(large, "no room for 63 twice", TOO_MUCH, x -> large.it.step(0));
+        refused(large, "nor behind the first of all", TOO_MUCH, x -> large.it.eliminate(0));
     }
 
     private static void promise23() {
         Bench b = new Bench();
-        refusedSlots(b, "eliminate", slot -> () -> b.it.eliminate(slot));
-        refused(b, "no proof", STATE, () -> b.it.eliminate(0));
+        refusedSlots(b, "eliminate", slot -> x -> b.it.eliminate(slot));
+        refused(b, "no proof", STATE, x -> b.it.eliminate(0));
         b.it.axiom(0, 0);
         due("no CUT", b.it.eliminate(0), 0);
         int n = b.read("((a+b)*(c&1))");
@@ -822,41 +791,14 @@ public final class PromisesTest {
         due("the CUT of duals", b.line(0, 0), "24 25");
         due("as it was", b.proof(0), before);
         due("a node that is not as its rule asks", new ProofChecker(b.it, 0).firstWrong(), -1);
-        Bench many = manySteps(3);
+        Bench many = Examples.manySteps(3);
+        due("CUTS at first", many.it.cuts(0), 20);
         due("300 steps", many.it.eliminate(0), 300);
         due("CUTS", many.it.cuts(0), 0);
-        Bench more = manySteps(4);
-        refused(more, "301 steps", TOO_MUCH, () -> more.it.eliminate(0));
+        Bench more = Examples.manySteps(4);
+        refused(more, "301 steps", TOO_MUCH, x -> more.it.eliminate(0));
         due("but one by step()", more.it.step(0) >= 0, true);
         due("and the others", more.it.eliminate(0), 300);
-    }
-
-    /** A proof 16 rules high under which 17 CUTS take 297 STEPS, and some of an AXIOM that take one each. */
-    private static Bench manySteps(int single) {
-        Bench b = new Bench();
-        int sum = b.read("(a+a)");
-        b.it.axiom(0, 0);
-        b.it.bottom(0);
-        int falsum = 17;
-        for (int i = 0; i < 7; i++) {
-            b.it.bottom(0);
-            falsum = b.it.make(1, falsum, 17);
-            b.it.par(0, falsum);
-        }
-        due("high", b.it.bottom(0), 17);
-        b.it.axiom(1, 0);
-        b.it.plus(1, sum, false);
-        b.it.axiom(2, 0);
-        b.it.with(2, 2, sum ^ 1);
-        b.it.axiom(3, 0);
-        for (int i = 0; i < single; i++) {
-            b.it.cut(0, 3, 0);
-        }
-        for (int i = 0; i < 17; i++) {
-            b.it.cut(0, i % 2 == 0 ? 1 : 2, i % 2 == 0 ? 0 : sum);
-        }
-        due("CUTS", b.it.cuts(0), 17 + single);
-        return b;
     }
 
     private static void promise24() {
@@ -868,7 +810,7 @@ public final class PromisesTest {
         b.it.cut(3, b.it.one(2) + 1, 17);
         due("CUT", b.it.nodes(3), 4);
         due("another slot", b.it.nodes(0), 0);
-        refusedSlots(b, "nodes", slot -> () -> b.it.nodes(slot));
+        refusedSlots(b, "nodes", slot -> x -> b.it.nodes(slot));
     }
 
     private static void promise25() {
@@ -882,7 +824,7 @@ public final class PromisesTest {
         b.it.cut(0, 0, 0);
         due("three", b.it.cuts(0), 3);
         due("another slot", b.it.cuts(1), 0);
-        refusedSlots(b, "cuts", slot -> () -> b.it.cuts(slot));
+        refusedSlots(b, "cuts", slot -> x -> b.it.cuts(slot));
     }
 
     private static void promise26() {
@@ -898,14 +840,14 @@ public final class PromisesTest {
                 due("of node " + k + ", " + what, b.it.node(0, k, what), want[k][what]);
             }
         }
-        refusedSlots(b, "node", slot -> () -> b.it.node(slot, 0, 0));
-        refused(b, "what -1", ARGUMENT, () -> b.it.node(0, 0, -1));
-        refused(b, "what 4", ARGUMENT, () -> b.it.node(0, 0, 4));
-        refused(b, "what 4 of no node", ARGUMENT, () -> b.it.node(0, 9, 4));
-        refused(b, "node -1", INDEX, () -> b.it.node(0, -1, 0));
-        refused(b, "node 4", INDEX, () -> b.it.node(0, 4, 0));
-        refused(b, "node 100", INDEX, () -> b.it.node(0, 100, 0));
-        refused(b, "no proof", INDEX, () -> b.it.node(2, 0, 0));
+        refusedSlots(b, "node", slot -> x -> b.it.node(slot, 0, 0));
+        refused(b, "what -1", ARGUMENT, x -> b.it.node(0, 0, -1));
+        refused(b, "what 4", ARGUMENT, x -> b.it.node(0, 0, 4));
+        refused(b, "what 4 of no node", ARGUMENT, x -> b.it.node(0, 9, 4));
+        refused(b, "node -1", INDEX, x -> b.it.node(0, -1, 0));
+        refused(b, "node 4", INDEX, x -> b.it.node(0, 4, 0));
+        refused(b, "node 100", INDEX, x -> b.it.node(0, 100, 0));
+        refused(b, "no proof", INDEX, x -> b.it.node(2, 0, 0));
     }
 
     private static void promise27() {
@@ -920,10 +862,10 @@ public final class PromisesTest {
         due("of the node above", b.line(0, 1), "3 3 18 19");
         due("formula -1", b.it.conclusion(0, 0, -1), NONE);
         due("far", b.it.conclusion(0, 1, Integer.MAX_VALUE), NONE);
-        refusedSlots(b, "conclusion", slot -> () -> b.it.conclusion(slot, 0, 0));
-        refused(b, "node -1", INDEX, () -> b.it.conclusion(0, -1, 0));
-        refused(b, "node 2", INDEX, () -> b.it.conclusion(0, 2, 0));
-        refused(b, "no proof", INDEX, () -> b.it.conclusion(1, 0, 0));
+        refusedSlots(b, "conclusion", slot -> x -> b.it.conclusion(slot, 0, 0));
+        refused(b, "node -1", INDEX, x -> b.it.conclusion(0, -1, 0));
+        refused(b, "node 2", INDEX, x -> b.it.conclusion(0, 2, 0));
+        refused(b, "no proof", INDEX, x -> b.it.conclusion(1, 0, 0));
     }
 
     public static void main(String[] args) {
@@ -936,11 +878,9 @@ public final class PromisesTest {
             PromisesTest::promise21, PromisesTest::promise22, PromisesTest::promise23, PromisesTest::promise24,
             PromisesTest::promise25, PromisesTest::promise26, PromisesTest::promise27,
         };
-        for (Runnable each : promises) {
-            promise++;
-            each.run();
+        for (int i = 0; i < promises.length; i++) {
+            test("promise " + (i + 1), promises[i]);
         }
-        System.out.println(promise + " promises, " + wrong + " wrong answers");
-        System.exit(wrong == 0 ? 0 : 1);
+        end("promises");
     }
 }
